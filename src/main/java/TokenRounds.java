@@ -1240,9 +1240,7 @@ public final class TokenRounds {
 
         int lose() {
             lane = NOTHING;
-            int had = many;
-            many = 0;
-            return had;
+            return many;
         }
 
         /** An item, which is known to be there, becomes the lowest bits of a number. */
