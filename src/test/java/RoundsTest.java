@@ -265,7 +265,6 @@ public final class RoundsTest {
         odds(x, "all of 6", 5, 26704 / 16, 32768 / 16);
         odds(x, "all of 6", 0, 1, 1);
         odds(x, "all of 6", 10, 0, 1);
-        Check.due("all of 6: joined(1, 1)", x.joined(1, 1) <= 1000000000000000L ? 1 : 0, 1);
         x.tell(0, 2);
         odds(x, "two", 4, 3, 5);
     }
