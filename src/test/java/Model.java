@@ -813,6 +813,16 @@ final class Model {
         });
     }
 
+    /** What each node would send by LEAST or TURNS, as a row tells it. */
+    int[] rowOf(int manner) {
+        List<List<Integer>> out = wouldSend(manner);
+        int[] row = new int[s.n];
+        for (int v = 0; v < s.n; v++) {
+            row[v] = out.get(v).isEmpty() ? 9 : Integer.numberOfTrailingZeros(out.get(v).get(0));
+        }
+        return row;
+    }
+
     int sheet(int sheet, int lane, int n) {
         if (noSheet(sheet, lane) || n > 24) {
             return -1;

@@ -2,12 +2,13 @@ import java.util.Random;
 
 /** Runs of calls by chance, the same each time, answered by the class as by the model. */
 public final class ModelTest {
-    private static final int RUNS = 400, CALLS = 512;
+    private static final int RUNS = 800, CALLS = 512;
 
     private final TokenRounds x = new TokenRounds();
     private final Model y = new Model();
     private final Random chance;
     private final int seed;
+    private int calls = 0;
 
     private ModelTest(int seed) {
         this.seed = seed;
@@ -22,11 +23,16 @@ public final class ModelTest {
     }
 
     private void run() {
-        for (int i = 0; i < CALLS; i++) {
-            if (!call(i)) {
+        while (calls < CALLS) {
+            if (!call(calls)) {
                 return;
             }
         }
+    }
+
+    /** Whether so many calls are left: later ones may answer what they like. */
+    private boolean left(int more) {
+        return calls + more <= CALLS;
     }
 
     private int below(int bound) {
@@ -50,14 +56,15 @@ public final class ModelTest {
     }
 
     private int node() {
-        return near(x.count(0) - 1);
+        return near(y.count(0) - 1);
     }
 
     private int sum() {
-        return near((1 << x.count(1)) - 1);
+        return near((1 << y.count(1)) - 1);
     }
 
     private boolean same(int at, String what, long got, long want) {
+        calls++;
         if (got != want) {
             Check.due("run " + seed + ", call " + at + ": " + what, got, want);
         } else {
@@ -117,11 +124,11 @@ public final class ModelTest {
             }
             case 3: {
                 // all nets of six nodes are many for the model
-                int what = x.count(0) == 6 && below(6) != 0 ? 2 * below(2) : near(2);
+                int what = y.count(0) == 6 && below(6) != 0 ? 2 * below(2) : near(2);
                 return same(at, "gain(" + what + ")", x.gain(what), y.gain(what));
             }
             case 4:
-                return same(at, "foreseen()", x.foreseen(), y.foreseen());
+                return below(6) == 0 ? chain(at) : same(at, "foreseen()", x.foreseen(), y.foreseen());
             case 5: {
                 int j = near(9);
                 return same(at, "views(" + j + ")", x.views(j), y.views(j));
@@ -153,7 +160,7 @@ public final class ModelTest {
             case 3:
                 return same(at, "read()", x.read(), y.read());
             case 4: case 5:
-                return typed(at) && same(at, "read()", x.read(), y.read());
+                return typed(at) && (!left(1) || same(at, "read()", x.read(), y.read()));
             case 6: {
                 int n = below(3) == 0 ? near(40) : 1 + below(3);
                 return same(at, "drift(" + n + ")", x.drift(n), y.drift(n));
@@ -172,11 +179,13 @@ public final class ModelTest {
     }
 
     private boolean typed(int at) {
-        if (below(2) == 0) {
-            x.read();
-            y.read();
+        if (below(2) == 0 && !same(at, "read()", x.read(), y.read())) {
+            return false;
         }
         String text = text();
+        if (!left(text.length() + 1)) {
+            return true;
+        }
         for (int i = 0; i < text.length(); i++) {
             if (!same(at, "type of '" + text + "'", x.type(text.charAt(i)), y.type(text.charAt(i)))) {
                 return false;
@@ -209,7 +218,7 @@ public final class ModelTest {
     }
 
     private String net() {
-        int n = x.count(0);
+        int n = y.count(0);
         String blank = below(4) == 0 ? " " : "";
         StringBuilder order = new StringBuilder();
         for (int v = 0; v < n; v++) {
@@ -274,29 +283,42 @@ public final class ModelTest {
 
     /** A row that could be: what each node would send by LEAST or TURNS now, now and then with another item. */
     private boolean row(int at) {
-        int n = x.count(0);
-        int manner = x.count(2);
-        int by = below(2);
-        x.image();
-        y.image();
-        x.tell(2, by);
-        y.tell(2, by);
-        int[] sent = new int[n];
-        for (int v = 0; v < n; v++) {
-            int sum = x.sends(v);
-            sent[v] = sum < 0 ? 9 : Integer.numberOfTrailingZeros(sum);
+        int n = y.count(0);
+        if (!left(n + 2)) {
+            return true;
         }
-        x.restore();
-        y.restore();
+        int[] sent = y.rowOf(below(2));
         if (below(3) == 0) {
             sent[below(n)] = below(12);
         }
-        x.sheet(1, 2, n + 1);
-        y.sheet(1, 2, n + 1);
+        boolean same = same(at, "sheet(1, 2, " + (n + 1) + ")", x.sheet(1, 2, n + 1), y.sheet(1, 2, n + 1));
         for (int v = 0; v < n; v++) {
-            x.item(1, 2, v + 1, sent[v]);
-            y.item(1, 2, v + 1, sent[v]);
+            same &= same(at, "item of a row", x.item(1, 2, v + 1, sent[v]), y.item(1, 2, v + 1, sent[v]));
         }
-        return same(at, "manner", x.count(2), manner) && same(at, "could of a row", x.could(1, 2, 1), y.could(1, 2, 1));
+        return same && same(at, "could of a row", x.could(1, 2, 1), y.could(1, 2, 1));
+    }
+
+    /** By turns each of two nodes tells a token just when it got the one ahead: it takes as many rounds as it can. */
+    private boolean chain(int at) {
+        if (!left(14)) {
+            return true;
+        }
+        int n = 2 + below(3);
+        boolean same = same(at, "tell(1, 1)", x.tell(1, 1), y.tell(1, 1)) && same(at, "tell(1, 8)", x.tell(1, 8), y.tell(1, 8));
+        x.tell(0, n);
+        y.tell(0, n);
+        x.tell(2, 1);
+        y.tell(2, 1);
+        calls += 2;
+        int from = below(n);
+        int to = (from + 1 + below(n - 1)) % n;
+        same &= same(at, "put of a chain", x.put(from, 128), y.put(from, 128));
+        for (int t = 6; t >= 0; t--) {
+            int v = t % 2 == 0 ? to : from;
+            same &= same(at, "put of a chain", x.put(v, 3 << t), y.put(v, 3 << t));
+        }
+        int gone = below(3) == 0 ? 20 : 1 + below(8);
+        return same && same(at, "go(" + gone + ") of a chain", x.go(gone), y.go(gone))
+            && same(at, "foreseen() of a chain", x.foreseen(), y.foreseen());
     }
 }

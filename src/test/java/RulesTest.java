@@ -115,10 +115,30 @@ public final class RulesTest {
         }
         Check.holds("no lambda, no method reference", !code.contains("->") && !code.contains("::"));
         Check.holds("signs 1 to 127 alone", text.chars().allMatch(sign -> sign > 0 && sign < 128));
+        methodsAreShort(code);
         for (String line : code.split("\n")) {
             boolean made = line.contains("new ");
             boolean kept = line.contains(" = new ") && (line.contains("private final") || line.matches("\\s+\\w+\\[\\w\\] = new \\w+\\(\\);"));
             Check.holds("made in constructors alone: " + line.trim(), !made || kept);
         }
+    }
+
+    /** A method begins with a line that ends with { and ends with a } as far in. */
+    private static void methodsAreShort(String code) {
+        String[] lines = code.split("\n");
+        int methods = 0;
+        for (int i = 0; i < lines.length; i++) {
+            if (lines[i].matches("( {4}| {8})\\w[\\w\\[\\] ]*\\([\\w\\[\\], ]*\\) \\{")
+                && !lines[i].matches(" *(if|for|while|switch)\\b.*")) {
+                methods++;
+                String end = lines[i].replaceAll("\\w.*", "}");
+                int last = i;
+                while (last < lines.length && !lines[last].equals(end)) {
+                    last++;
+                }
+                Check.holds("some sixty lines at most: " + lines[i].trim(), last - i < 60);
+            }
+        }
+        Check.holds("methods were found", methods > 100);
     }
 }
